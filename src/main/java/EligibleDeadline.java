@@ -169,7 +169,7 @@ public final class EligibleDeadline {
         if (!isPresent(client)) {
             return NO_VALUE;
         }
-        return advances[client] + UNIT / weights[client];
+        return deadlineOf(client);
     }
 
     public int weight(int client) {
@@ -224,10 +224,14 @@ public final class EligibleDeadline {
         return weight < 1 || weight > weightLimit;
     }
 
+    private long deadlineOf(int client) {
+        return advances[client] + UNIT / weights[client];
+    }
+
+    // join sets all the rest anew, so nothing of this presence can come back.
     private void makeAbsent(int client) {
         weightSum -= weights[client];
         weights[client] = 0;
-        leavingMarks[client] = false;
     }
 
     private int best(long allowance) {
@@ -235,7 +239,7 @@ public final class EligibleDeadline {
         long earliest = 0L;
         for (int i = 0; i < clientCount; i++) {
             if (isPresent(i) && advances[i] <= allowance) {
-                long due = advances[i] + UNIT / weights[i];
+                long due = deadlineOf(i);
                 // Names are met in rising order, so a tie stays with the least.
                 if (chosen < 0 || due < earliest) {
                     chosen = i;

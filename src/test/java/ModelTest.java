@@ -33,7 +33,7 @@ public final class ModelTest {
             {Integer.MAX_VALUE, Integer.MAX_VALUE, Integer.MAX_VALUE}};
         for (int i = 0; i < sizes.length; i++) {
             for (int seed = 0; seed < 4; seed++) {
-                new ModelTest(100L * i + seed, sizes[i][0], sizes[i][1], sizes[i][2]).compare(600, 25 * seed);
+                new ModelTest(100L * i + seed, sizes[i][0], sizes[i][1], sizes[i][2]).compare(300, 25 * seed);
             }
         }
         Due.end();
@@ -83,16 +83,16 @@ public final class ModelTest {
     }
 
     private void compareState() {
-        Due.is(after("next()"), real.next(), model.bestWithin(0));
-        Due.is(after("eligible()"), real.eligible(), model.eligible());
-        Due.is(after("totalWeight()"), real.totalWeight(), model.totalWeight());
-        Due.is(after("clock()"), real.clock(), model.clock());
+        alike("next", 0, real.next(), model.bestWithin(0));
+        alike("eligible", 0, real.eligible(), model.eligible());
+        alike("totalWeight", 0, real.totalWeight(), model.totalWeight());
+        alike("clock", 0, real.clock(), model.clock());
         for (int client = -1; client <= 32; client++) {
             compareClient(client);
         }
         compareClient(oddNumber());
         for (int back = -1; back <= 65; back++) {
-            Due.is(after("ranAt(" + back + ")"), real.ranAt(back), model.ranAt(back));
+            alike("ranAt", back, real.ranAt(back), model.ranAt(back));
         }
         for (long allowance : ODD_ALLOWANCES) {
             compareBest(allowance);
@@ -100,12 +100,11 @@ public final class ModelTest {
     }
 
     private void compareClient(int client) {
-        String named = "(" + client + ")";
-        Due.is(after("lag" + named), real.lag(client), model.lag(client));
-        Due.is(after("deadline" + named), real.deadline(client), model.deadline(client));
-        Due.is(after("weight" + named), real.weight(client), model.weight(client));
-        Due.is(after("served" + named), real.served(client), model.served(client));
-        Due.is(after("leaving" + named), real.leaving(client), model.leaving(client));
+        alike("lag", client, real.lag(client), model.lag(client));
+        alike("deadline", client, real.deadline(client), model.deadline(client));
+        alike("weight", client, real.weight(client), model.weight(client));
+        alike("served", client, real.served(client), model.served(client));
+        alike("leaving", client, real.leaving(client) ? 1 : 0, model.leaving(client) ? 1 : 0);
         if (model.weight(client) > 0) {
             long advance = model.advance(client);
             compareBest(advance - 1);
@@ -115,11 +114,12 @@ public final class ModelTest {
     }
 
     private void compareBest(long allowance) {
-        Due.is(after("bestWithin(" + allowance + ")"), real.bestWithin(allowance), model.bestWithin(allowance));
+        alike("bestWithin", allowance, real.bestWithin(allowance), model.bestWithin(allowance));
     }
 
-    private String after(String call) {
-        return call + " after " + last;
+    // The text is put together only for a wrong answer: there are millions of right ones.
+    private void alike(String call, long argument, long got, long want) {
+        Due.is(got == want ? call : call + " of " + argument + " after " + last, got, want);
     }
 
     private int someClient() {
