@@ -22,7 +22,43 @@ final class Due {
         checked++;
         if (!got.equals(want)) {
             wrong++;
-            System.out.println(what + ": is " + got + ", due is " + want);
+            String is = got.toString();
+            String due = want.toString();
+            int from = Math.max(0, firstDifference(is, due) - 40);
+            System.out.println(what + ": is " + excerpt(is, from) + ", due is " + excerpt(due, from));
+        }
+    }
+
+    private static int firstDifference(String one, String other) {
+        int at = 0;
+        while (at < one.length() && at < other.length() && one.charAt(at) == other.charAt(at)) {
+            at++;
+        }
+        return at;
+    }
+
+    // Some texts tell all of an object many times over: only the place where they part is of use.
+    private static String excerpt(String text, int from) {
+        int to = Math.min(text.length(), from + 160);
+        return (from > 0 ? ".. " : "") + text.substring(from, to) + (to < text.length() ? " .." : "");
+    }
+
+    /** Runs the test of one sentence of the document; one that throws or checks nothing is wrong too. */
+    static void sentence(String text, Runnable test) {
+        int checkedBefore = checked;
+        int wrongBefore = wrong;
+        try {
+            test.run();
+        } catch (RuntimeException | Error thrown) {
+            wrong++;
+            System.out.println("a call threw " + thrown);
+        }
+        if (checked == checkedBefore) {
+            wrong++;
+            System.out.println("nothing was checked");
+        }
+        if (wrong != wrongBefore) {
+            System.out.println("BROKEN " + text);
         }
     }
 
