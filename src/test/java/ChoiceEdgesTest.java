@@ -7,7 +7,7 @@ public final class ChoiceEdgesTest {
         Due.sentence("7: the client that the next quantum would go to", ChoiceEdgesTest::nextIsWhoRuns);
         Due.sentence("7: NONE exactly if no client is present", ChoiceEdgesTest::nextWithoutClients);
         Due.sentence("7: the horizon plays no part", ChoiceEdgesTest::nextAtTheHorizon);
-        Due.sentence("7: changes nothing", () -> Unchanged.inEveryState("next()", x -> x.next()));
+        Due.sentence("7: changes nothing", () -> Unchanged.byAskingInEveryState("next()", x -> x.next()));
         Due.sentence("8: for any long whatever, the negative ones", ChoiceEdgesTest::bestWithinNegative);
         Due.sentence("8: for any long whatever, the extreme ones", ChoiceEdgesTest::bestWithinExtremes);
         Due.sentence("8: present clients count whether marked or not", ChoiceEdgesTest::bestWithinMarked);
@@ -19,7 +19,7 @@ public final class ChoiceEdgesTest {
         Due.sentence("9: one beyond the mean does not count", ChoiceEdgesTest::eligibleBeyond);
         Due.sentence("9: marked or not", ChoiceEdgesTest::eligibleMarked);
         Due.sentence("9: 0 exactly if no client is present", ChoiceEdgesTest::eligibleWithoutClients);
-        Due.sentence("9: changes nothing", () -> Unchanged.inEveryState("eligible()", x -> x.eligible()));
+        Due.sentence("9: changes nothing", () -> Unchanged.byAskingInEveryState("eligible()", x -> x.eligible()));
         Due.end();
     }
 
@@ -31,6 +31,9 @@ public final class ChoiceEdgesTest {
         }
         Due.is("next, 1 beyond the mean with the least deadline", States.twoAfter(1).next(), 0);
         Due.is("next, both at advance 0", States.twoAfter(4).next(), 1);
+        EligibleDeadline close = States.joined(35, 1);
+        close.run(1);
+        Due.is("next, 0 only UNIT / 1260 beyond the mean", close.next(), 1);
     }
 
     private static void nextIsWhoRuns() {
@@ -121,7 +124,7 @@ public final class ChoiceEdgesTest {
     }
 
     private static void bestWithinChangesNothing() {
-        Unchanged.inEveryState("bestWithin of many", x -> {
+        Unchanged.byAskingInEveryState("bestWithin of many", x -> {
             x.bestWithin(Long.MIN_VALUE);
             for (int part = -40; part <= 40; part++) {
                 x.bestWithin(UNIT / 36 * part);
@@ -153,6 +156,9 @@ public final class ChoiceEdgesTest {
         }
         x.run(1);
         Due.is("eligible after the round", x.eligible(), 32);
+        EligibleDeadline close = States.joined(35, 1);
+        close.run(1);
+        Due.is("eligible, 0 only UNIT / 1260 beyond the mean", close.eligible(), 1);
     }
 
     private static void eligibleMarked() {

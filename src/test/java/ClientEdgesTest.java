@@ -67,7 +67,7 @@ public final class ClientEdgesTest {
     }
 
     private static void changesNothing(String call, Question question) {
-        Unchanged.inEveryState(call + " of every client, good and bad", x -> {
+        Unchanged.byAskingInEveryState(call + " of every client, good and bad", x -> {
             for (int client = -2; client <= 34; client++) {
                 question.ask(x, client);
             }

@@ -157,6 +157,11 @@ public final class RunEdgesTest {
             x.run(1);
             Due.is("the client of quantum " + quanta, x.ranAt(0), best);
         }
+        EligibleDeadline close = States.joined(35, 1);
+        close.run(1);
+        Due.is("deadline(0), UNIT / 1260 beyond the mean", close.deadline(0), UNIT / 35 + UNIT / 1260);
+        close.run(1);
+        Due.is("the client that is not beyond it", close.ranAt(0), 1);
     }
 
     // Client 8 never asks to leave, so that there is a client all the time.

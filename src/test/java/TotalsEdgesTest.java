@@ -4,11 +4,11 @@ public final class TotalsEdgesTest {
         Due.sentence("15: the marked ones included", TotalsEdgesTest::totalWeightOfMarked);
         Due.sentence("15: 0 if there are none", TotalsEdgesTest::totalWeightWithoutClients);
         Due.sentence("15: never more than weightLimit", TotalsEdgesTest::totalWeightAtTheLimit);
-        Due.sentence("15: changes nothing", () -> Unchanged.inEveryState("totalWeight()", x -> x.totalWeight()));
+        Due.sentence("15: changes nothing", () -> Unchanged.byAskingInEveryState("totalWeight()", x -> x.totalWeight()));
         Due.sentence("16: 0 .. horizon", TotalsEdgesTest::clockWithinTheHorizon);
         Due.sentence("16: only quanta given by run move it", TotalsEdgesTest::clockMovedByRunAlone);
         Due.sentence("16: it never goes back", TotalsEdgesTest::clockNeverGoesBack);
-        Due.sentence("16: changes nothing", () -> Unchanged.inEveryState("clock()", x -> x.clock()));
+        Due.sentence("16: changes nothing", () -> Unchanged.byAskingInEveryState("clock()", x -> x.clock()));
         Due.sentence("17: back 0 is the most recent quantum, 1 the one before", TotalsEdgesTest::ranAtInOrder);
         Due.sentence("17: NONE if back < 0", TotalsEdgesTest::ranAtBelowZero);
         Due.sentence("17: NONE if back > 63", TotalsEdgesTest::ranAtAbove63);
@@ -175,7 +175,7 @@ public final class TotalsEdgesTest {
     }
 
     private static void ranAtChangesNothing() {
-        Unchanged.inEveryState("ranAt of many", x -> {
+        Unchanged.byAskingInEveryState("ranAt of many", x -> {
             for (int back = -2; back <= 140; back++) {
                 x.ranAt(back);
             }
