@@ -41,31 +41,48 @@ public final class FaceTest {
         "public int EligibleDeadline.clock()",
         "public int EligibleDeadline.ranAt(int)");
 
-    public static void main(String[] args) throws IllegalAccessException {
-        Class<?> face = EligibleDeadline.class;
-        Due.same("the class", Modifier.toString(face.getModifiers()), "public final");
-        Due.same("the constants", openFields(face), new TreeSet<>(CONSTANTS));
-        Due.same("the methods", openMethods(face), new TreeSet<>(METHODS));
-        Due.same("the constructors", constructors(face), Set.of("public EligibleDeadline(int,int,int)"));
-        Due.is("the nested classes", face.getDeclaredClasses().length, 0);
-        unitIsDivisible();
+    private static final Class<?> FACE = EligibleDeadline.class;
+
+    public static void main(String[] args) {
+        Due.sentence("The public face: a public final class without nested ones", FaceTest::classAlone);
+        Due.sentence("The public face: the constants, and no other field that is open", () ->
+            Due.same("the constants", openFields(), new TreeSet<>(CONSTANTS)));
+        Due.sentence("The public face: the methods, and no other that is open", () ->
+            Due.same("the methods", openMethods(), new TreeSet<>(METHODS)));
+        Due.sentence("The public face: the constructor, and no other", () ->
+            Due.same("the constructors", constructors(), Set.of("public EligibleDeadline(int,int,int)")));
         Due.end();
     }
 
-    private static Set<String> openFields(Class<?> face) throws IllegalAccessException {
+    private static void classAlone() {
+        Due.same("the class", Modifier.toString(FACE.getModifiers()), "public final");
+        Due.same("its name", FACE.getName(), "EligibleDeadline");
+        Due.is("the nested classes", FACE.getDeclaredClasses().length, 0);
+        Due.is("it is below another class", FACE.getSuperclass() != Object.class, false);
+        Due.is("its interfaces", FACE.getInterfaces().length, 0);
+    }
+
+    private static Set<String> openFields() {
         Set<String> found = new TreeSet<>();
-        for (Field field : face.getDeclaredFields()) {
+        for (Field field : FACE.getDeclaredFields()) {
             if (!Modifier.isPrivate(field.getModifiers())) {
-                String value = Modifier.isStatic(field.getModifiers()) ? " = " + field.get(null) : "";
-                found.add(Modifier.toString(field.getModifiers()) + " " + field.getType() + " " + field.getName() + value);
+                found.add(Modifier.toString(field.getModifiers()) + " " + field.getType() + " " + field.getName() + value(field));
             }
         }
         return found;
     }
 
-    private static Set<String> openMethods(Class<?> face) {
+    private static String value(Field field) {
+        try {
+            return Modifier.isStatic(field.getModifiers()) ? " = " + field.get(null) : "";
+        } catch (IllegalAccessException hidden) {
+            return " hidden";
+        }
+    }
+
+    private static Set<String> openMethods() {
         Set<String> found = new TreeSet<>();
-        for (Method method : face.getDeclaredMethods()) {
+        for (Method method : FACE.getDeclaredMethods()) {
             if (!Modifier.isPrivate(method.getModifiers())) {
                 found.add(method.toString());
             }
@@ -73,17 +90,11 @@ public final class FaceTest {
         return found;
     }
 
-    private static Set<String> constructors(Class<?> face) {
+    private static Set<String> constructors() {
         Set<String> found = new TreeSet<>();
-        for (Constructor<?> constructor : face.getDeclaredConstructors()) {
+        for (Constructor<?> constructor : FACE.getDeclaredConstructors()) {
             found.add(constructor.toString());
         }
         return found;
-    }
-
-    private static void unitIsDivisible() {
-        for (int divisor = 1; divisor <= 36; divisor++) {
-            Due.is("UNIT % " + divisor, EligibleDeadline.UNIT % divisor, 0);
-        }
     }
 }

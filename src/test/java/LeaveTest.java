@@ -1,29 +1,29 @@
-/** The edges that promises 3 and 4 name, each sentence with a test of its own: leave and stay. */
-public final class LeaveEdgesTest {
+/** Promises 3 and 4, each sentence with a test of its own: leave and stay. */
+public final class LeaveTest {
     private static final long UNIT = States.UNIT;
 
     public static void main(String[] args) {
-        Due.sentence("3.1: bad client: BAD_CLIENT", LeaveEdgesTest::leaveBadClient);
-        Due.sentence("3.2: absent: ABSENT", LeaveEdgesTest::leaveAbsent);
-        Due.sentence("3.3: already marked as leaving: ALREADY", LeaveEdgesTest::leaveAlready);
-        Due.sentence("3.4: its advance is 0: it becomes absent at once", LeaveEdgesTest::leaveAtOnce);
-        Due.sentence("3.4: W falls by its weight", LeaveEdgesTest::leaveGivesItsWeightBack);
-        Due.sentence("3.4: the advances of the others do not change", LeaveEdgesTest::leaveKeepsTheOthers);
-        Due.sentence("3.4: the last client leaves too", LeaveEdgesTest::leaveOfTheLast);
-        Due.sentence("3.5: its advance is not 0: DEFERRED", LeaveEdgesTest::leaveDeferred);
-        Due.sentence("3.5: nothing else changes", LeaveEdgesTest::leaveDeferredChangesTheMarkAlone);
-        Due.sentence("3: a marked client goes on competing exactly as before", LeaveEdgesTest::markedGoesOnCompeting);
-        Due.sentence("3: until step 5 of some quantum makes it absent", LeaveEdgesTest::markedUntilLagZero);
-        Due.sentence("3: or stay takes the mark away", LeaveEdgesTest::markedUntilStay);
-        Due.sentence("3: the clock and the log do not change by this call", LeaveEdgesTest::leaveKeepsClockAndLog);
-        Due.sentence("3: leave at the horizon", LeaveEdgesTest::leaveAtTheHorizon);
-        Due.sentence("4.1: bad client: BAD_CLIENT", LeaveEdgesTest::stayBadClient);
-        Due.sentence("4.2: absent: ABSENT", LeaveEdgesTest::stayAbsent);
-        Due.sentence("4.3: not marked as leaving: NOT_LEAVING", LeaveEdgesTest::stayNotLeaving);
-        Due.sentence("4.4: the mark is taken away and nothing else changes", LeaveEdgesTest::stayTakesTheMarkAlone);
-        Due.sentence("4: afterwards it is present and unmarked", LeaveEdgesTest::stayedIsUnmarked);
-        Due.sentence("4: a later leave treats it as such, advance not 0", LeaveEdgesTest::stayedLeavesLater);
-        Due.sentence("4: a later leave treats it as such, advance 0", LeaveEdgesTest::stayedLeavesAtOnce);
+        Due.sentence("3.1: bad client: BAD_CLIENT", LeaveTest::leaveBadClient);
+        Due.sentence("3.2: absent: ABSENT", LeaveTest::leaveAbsent);
+        Due.sentence("3.3: already marked as leaving: ALREADY", LeaveTest::leaveAlready);
+        Due.sentence("3.4: its advance is 0: it becomes absent at once", LeaveTest::leaveAtOnce);
+        Due.sentence("3.4: W falls by its weight", LeaveTest::leaveGivesItsWeightBack);
+        Due.sentence("3.4: the advances of the others do not change", LeaveTest::leaveKeepsTheOthers);
+        Due.sentence("3.4: the last client leaves too", LeaveTest::leaveOfTheLast);
+        Due.sentence("3.5: its advance is not 0: DEFERRED", LeaveTest::leaveDeferred);
+        Due.sentence("3.5: nothing else changes", LeaveTest::leaveDeferredChangesTheMarkAlone);
+        Due.sentence("3: a marked client goes on competing exactly as before", LeaveTest::markedGoesOnCompeting);
+        Due.sentence("3: until step 5 of some quantum makes it absent", LeaveTest::markedUntilLagZero);
+        Due.sentence("3: or stay takes the mark away", LeaveTest::markedUntilStay);
+        Due.sentence("3: the clock and the log do not change by this call", LeaveTest::leaveKeepsClockAndLog);
+        Due.sentence("3: leave at the horizon", LeaveTest::leaveAtTheHorizon);
+        Due.sentence("4.1: bad client: BAD_CLIENT", LeaveTest::stayBadClient);
+        Due.sentence("4.2: absent: ABSENT", LeaveTest::stayAbsent);
+        Due.sentence("4.3: not marked as leaving: NOT_LEAVING", LeaveTest::stayNotLeaving);
+        Due.sentence("4.4: the mark is taken away and nothing else changes", LeaveTest::stayTakesTheMarkAlone);
+        Due.sentence("4: afterwards it is present and unmarked", LeaveTest::stayedIsUnmarked);
+        Due.sentence("4: a later leave treats it as such, advance not 0", LeaveTest::stayedLeavesLater);
+        Due.sentence("4: a later leave treats it as such, advance 0", LeaveTest::stayedLeavesAtOnce);
         Due.end();
     }
 

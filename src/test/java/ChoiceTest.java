@@ -1,24 +1,27 @@
-/** The edges that promises 7 to 9 name, each sentence with a test of its own: next, bestWithin, eligible. */
-public final class ChoiceEdgesTest {
+/** Promises 7 to 9, each sentence with a test of its own: next, bestWithin, eligible. */
+public final class ChoiceTest {
     private static final long UNIT = States.UNIT;
 
     public static void main(String[] args) {
-        Due.sentence("7: next answers best(0)", ChoiceEdgesTest::nextIsBestOfZero);
-        Due.sentence("7: the client that the next quantum would go to", ChoiceEdgesTest::nextIsWhoRuns);
-        Due.sentence("7: NONE exactly if no client is present", ChoiceEdgesTest::nextWithoutClients);
-        Due.sentence("7: the horizon plays no part", ChoiceEdgesTest::nextAtTheHorizon);
+        Due.sentence("7: next answers best(0)", ChoiceTest::nextIsBestOfZero);
+        Due.sentence("7: the client that the next quantum would go to", ChoiceTest::nextIsWhoRuns);
+        Due.sentence("7: NONE exactly if no client is present", ChoiceTest::nextWithoutClients);
+        Due.sentence("7: the horizon plays no part", ChoiceTest::nextAtTheHorizon);
         Due.sentence("7: changes nothing", () -> Unchanged.byAskingInEveryState("next()", x -> x.next()));
-        Due.sentence("8: for any long whatever, the negative ones", ChoiceEdgesTest::bestWithinNegative);
-        Due.sentence("8: for any long whatever, the extreme ones", ChoiceEdgesTest::bestWithinExtremes);
-        Due.sentence("8: present clients count whether marked or not", ChoiceEdgesTest::bestWithinMarked);
-        Due.sentence("8: NONE if no present client has an advance at or below", ChoiceEdgesTest::bestWithinNone);
-        Due.sentence("8: always NONE if no client is present", ChoiceEdgesTest::bestWithinWithoutClients);
-        Due.sentence("8: with Long.MAX_VALUE every present client is within", ChoiceEdgesTest::bestWithinAll);
-        Due.sentence("8: changes nothing", ChoiceEdgesTest::bestWithinChangesNothing);
-        Due.sentence("9: advance(i) <= 0, and 0 counts", ChoiceEdgesTest::eligibleAtZero);
-        Due.sentence("9: one beyond the mean does not count", ChoiceEdgesTest::eligibleBeyond);
-        Due.sentence("9: marked or not", ChoiceEdgesTest::eligibleMarked);
-        Due.sentence("9: 0 exactly if no client is present", ChoiceEdgesTest::eligibleWithoutClients);
+        Due.sentence("8: bestWithin answers best(allowance)", ChoiceTest::bestWithinIsBest);
+        Due.sentence("8: advances are compared as signed longs", ChoiceTest::bestWithinOfEachSign);
+        Due.sentence("8: for any long whatever, the negative ones", ChoiceTest::bestWithinNegative);
+        Due.sentence("8: for any long whatever, the extreme ones", ChoiceTest::bestWithinExtremes);
+        Due.sentence("8: present clients count whether marked or not", ChoiceTest::bestWithinMarked);
+        Due.sentence("8: NONE if no present client has an advance at or below", ChoiceTest::bestWithinNone);
+        Due.sentence("8: always NONE if no client is present", ChoiceTest::bestWithinWithoutClients);
+        Due.sentence("8: with Long.MAX_VALUE every present client is within", ChoiceTest::bestWithinAll);
+        Due.sentence("8: changes nothing", ChoiceTest::bestWithinChangesNothing);
+        Due.sentence("9: eligible answers the number of present clients that are eligible", ChoiceTest::eligibleCounted);
+        Due.sentence("9: advance(i) <= 0, and 0 counts", ChoiceTest::eligibleAtZero);
+        Due.sentence("9: one beyond the mean does not count", ChoiceTest::eligibleBeyond);
+        Due.sentence("9: marked or not", ChoiceTest::eligibleMarked);
+        Due.sentence("9: 0 exactly if no client is present", ChoiceTest::eligibleWithoutClients);
         Due.sentence("9: changes nothing", () -> Unchanged.byAskingInEveryState("eligible()", x -> x.eligible()));
         Due.end();
     }
@@ -62,6 +65,40 @@ public final class ChoiceEdgesTest {
         EligibleDeadline x = States.atHorizon();
         x.join(5, 30);
         Due.is("next at the horizon, after join", x.next(), 5);
+    }
+
+    private static void bestWithinIsBest() {
+        Mixed.ofEachPresent((x, client, when) -> {
+            long advance = advance(x, client);
+            for (long allowance = advance - 1; allowance <= advance + 1; allowance++) {
+                Due.is("bestWithin(" + allowance + ")" + when, x.bestWithin(allowance), best(x, allowance));
+            }
+        });
+    }
+
+    private static int best(EligibleDeadline x, long allowance) {
+        int best = EligibleDeadline.NONE;
+        for (int client = 0; client < States.CLIENTS; client++) {
+            boolean within = x.weight(client) > 0 && advance(x, client) <= allowance;
+            if (within && (best < 0 || x.deadline(client) < x.deadline(best))) {
+                best = client;
+            }
+        }
+        return best;
+    }
+
+    private static long advance(EligibleDeadline x, int client) {
+        return -x.lag(client) / x.weight(client);
+    }
+
+    // Read without their signs, the negative ones would be the greatest.
+    private static void bestWithinOfEachSign() {
+        EligibleDeadline x = States.twoAfter(1);
+        Due.is("a positive advance is not below -1", x.bestWithin(-1), 0);
+        Due.is("a negative advance is below 1", x.bestWithin(1), 0);
+        Due.is("a negative advance is below the greatest long", x.bestWithin(Long.MAX_VALUE), 1);
+        Due.is("no advance is below the least long", x.bestWithin(Long.MIN_VALUE), EligibleDeadline.NONE);
+        Due.is("an advance of 0 is not below -1", States.joined(1, 3).bestWithin(-1), EligibleDeadline.NONE);
     }
 
     private static void bestWithinNegative() {
@@ -130,6 +167,17 @@ public final class ChoiceEdgesTest {
                 x.bestWithin(UNIT / 36 * part);
             }
             x.bestWithin(Long.MAX_VALUE);
+        });
+    }
+
+    private static void eligibleCounted() {
+        Mixed.inEachState((when, maker) -> {
+            EligibleDeadline x = maker.get();
+            int due = 0;
+            for (int client = 0; client < States.CLIENTS; client++) {
+                due += x.weight(client) > 0 && x.lag(client) >= 0 ? 1 : 0;
+            }
+            Due.is("eligible()" + when, x.eligible(), due);
         });
     }
 

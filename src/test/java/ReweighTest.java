@@ -1,26 +1,26 @@
 import java.util.function.Supplier;
 
-/** The edges that promise 5 names, each sentence with a test of its own: reweigh. */
-public final class ReweighEdgesTest {
+/** Promise 5, each sentence with a test of its own: reweigh. */
+public final class ReweighTest {
     private static final long UNIT = States.UNIT;
 
     public static void main(String[] args) {
-        Due.sentence("5.1: bad client: BAD_CLIENT", ReweighEdgesTest::badClient);
-        Due.sentence("5.2: absent: ABSENT", ReweighEdgesTest::absent);
-        Due.sentence("5.3: weight < 1: BAD_WEIGHT", ReweighEdgesTest::weightTooSmall);
-        Due.sentence("5.3: weight > weightLimit: BAD_WEIGHT", ReweighEdgesTest::weightTooLarge);
-        Due.sentence("5.4: its advance is not 0: LAGGING", ReweighEdgesTest::lagging);
-        Due.sentence("5.4: LAGGING also if the weight is the one it has", ReweighEdgesTest::laggingWithItsWeight);
-        Due.sentence("5.5: W - (its present weight) + weight > weightLimit: FULL", ReweighEdgesTest::full);
-        Due.sentence("5.5: not FULL when that sum is weightLimit", ReweighEdgesTest::upToTheLimit);
-        Due.sentence("5.6: its weight becomes weight", ReweighEdgesTest::weightBecomes);
-        Due.sentence("5.6: W changes accordingly", ReweighEdgesTest::sumChanges);
-        Due.sentence("5: its advance stays 0", ReweighEdgesTest::advanceStaysZero);
-        Due.sentence("5: its served count stays", ReweighEdgesTest::servedStays);
-        Due.sentence("5: the other clients stay as they are", ReweighEdgesTest::othersStay);
-        Due.sentence("5: so do the clock and the log", ReweighEdgesTest::clockAndLogStay);
-        Due.sentence("5: the weight it has, at advance 0: OK, and all is as it was", ReweighEdgesTest::sameWeight);
-        Due.sentence("5: reweigh at the horizon", ReweighEdgesTest::atTheHorizon);
+        Due.sentence("5.1: bad client: BAD_CLIENT", ReweighTest::badClient);
+        Due.sentence("5.2: absent: ABSENT", ReweighTest::absent);
+        Due.sentence("5.3: weight < 1: BAD_WEIGHT", ReweighTest::weightTooSmall);
+        Due.sentence("5.3: weight > weightLimit: BAD_WEIGHT", ReweighTest::weightTooLarge);
+        Due.sentence("5.4: its advance is not 0: LAGGING", ReweighTest::lagging);
+        Due.sentence("5.4: LAGGING also if the weight is the one it has", ReweighTest::laggingWithItsWeight);
+        Due.sentence("5.5: W - (its present weight) + weight > weightLimit: FULL", ReweighTest::full);
+        Due.sentence("5.5: not FULL when that sum is weightLimit", ReweighTest::upToTheLimit);
+        Due.sentence("5.6: its weight becomes weight", ReweighTest::weightBecomes);
+        Due.sentence("5.6: W changes accordingly", ReweighTest::sumChanges);
+        Due.sentence("5: its advance stays 0", ReweighTest::advanceStaysZero);
+        Due.sentence("5: its served count stays", ReweighTest::servedStays);
+        Due.sentence("5: the other clients stay as they are", ReweighTest::othersStay);
+        Due.sentence("5: so do the clock and the log", ReweighTest::clockAndLogStay);
+        Due.sentence("5: the weight it has, at advance 0: OK, and all is as it was", ReweighTest::sameWeight);
+        Due.sentence("5: reweigh at the horizon", ReweighTest::atTheHorizon);
         Due.end();
     }
 

@@ -1,24 +1,27 @@
-/** The edges that promise 1 names, each sentence with a test of its own: construction and the start. */
-public final class ConstructionEdgesTest {
+/** Promise 1, each sentence with a test of its own: construction and the start. */
+public final class ConstructionTest {
     private static final int[] BELOW = {Integer.MIN_VALUE, Integer.MIN_VALUE + 1, -65536, -1, 0};
     private static final int[] EXTREMES = {Integer.MIN_VALUE, -1, 0, 1, 30001, Integer.MAX_VALUE};
 
     public static void main(String[] args) {
-        Due.sentence("1: takes any three ints", ConstructionEdgesTest::anyThreeInts);
-        Due.sentence("1: clients below 1 becomes 1", ConstructionEdgesTest::clientsBelow);
-        Due.sentence("1: clients above 32 becomes 32", ConstructionEdgesTest::clientsAbove);
-        Due.sentence("1: clients 1..32 is taken as it is", ConstructionEdgesTest::clientsAsGiven);
-        Due.sentence("1: weightLimit below 1 becomes 1", ConstructionEdgesTest::weightLimitBelow);
-        Due.sentence("1: weightLimit above 36 becomes 36", ConstructionEdgesTest::weightLimitAbove);
-        Due.sentence("1: weightLimit 1..36 is taken as it is", ConstructionEdgesTest::weightLimitAsGiven);
-        Due.sentence("1: horizon below 1 becomes 1", ConstructionEdgesTest::horizonBelow);
-        Due.sentence("1: horizon above 30000 becomes 30000", ConstructionEdgesTest::horizonAbove);
-        Due.sentence("1: horizon 1..30000 is taken as it is", ConstructionEdgesTest::horizonAsGiven);
-        Due.sentence("1: at first all clients are absent", ConstructionEdgesTest::allAbsentAtFirst);
-        Due.sentence("1: at first W is 0", ConstructionEdgesTest::noWeightAtFirst);
-        Due.sentence("1: at first the clock is 0", ConstructionEdgesTest::clockZeroAtFirst);
-        Due.sentence("1: at first the log is empty", ConstructionEdgesTest::logEmptyAtFirst);
-        Due.sentence("1: one object knows nothing of another", ConstructionEdgesTest::objectsAreApart);
+        Due.sentence("1: takes any three ints", ConstructionTest::anyThreeInts);
+        Due.sentence("1: clients below 1 becomes 1", ConstructionTest::clientsBelow);
+        Due.sentence("1: clients above 32 becomes 32", ConstructionTest::clientsAbove);
+        Due.sentence("1: clients 1..32 is taken as it is", ConstructionTest::clientsAsGiven);
+        Due.sentence("1: weightLimit below 1 becomes 1", ConstructionTest::weightLimitBelow);
+        Due.sentence("1: weightLimit above 36 becomes 36", ConstructionTest::weightLimitAbove);
+        Due.sentence("1: weightLimit 1..36 is taken as it is", ConstructionTest::weightLimitAsGiven);
+        Due.sentence("1: horizon below 1 becomes 1", ConstructionTest::horizonBelow);
+        Due.sentence("1: horizon above 30000 becomes 30000", ConstructionTest::horizonAbove);
+        Due.sentence("1: horizon 1..30000 is taken as it is", ConstructionTest::horizonAsGiven);
+        Due.sentence("1: everywhere else clients means the clamped value", ConstructionTest::clampedClientsEverywhere);
+        Due.sentence("1: everywhere else weightLimit means the clamped value", ConstructionTest::clampedWeightLimitEverywhere);
+        Due.sentence("1: everywhere else horizon means the clamped value", ConstructionTest::clampedHorizonEverywhere);
+        Due.sentence("1: at first all clients are absent", ConstructionTest::allAbsentAtFirst);
+        Due.sentence("1: at first W is 0", ConstructionTest::noWeightAtFirst);
+        Due.sentence("1: at first the clock is 0", ConstructionTest::clockZeroAtFirst);
+        Due.sentence("1: at first the log is empty", ConstructionTest::logEmptyAtFirst);
+        Due.sentence("1: one object knows nothing of another", ConstructionTest::objectsAreApart);
         Due.end();
     }
 
@@ -90,6 +93,54 @@ public final class ConstructionEdgesTest {
         int[] within = {1, 2, 3, 63, 64, 65, 127, 128, 129, 255, 256, 257, 4096, 29999, 30000};
         for (int horizon : within) {
             hasHorizon(new EligibleDeadline(4, 20, horizon), horizon);
+        }
+    }
+
+    private static void clampedClientsEverywhere() {
+        int[][] clamped = {{-7, 1}, {0, 1}, {33, 32}, {1000, 32}};
+        for (int[] each : clamped) {
+            EligibleDeadline x = new EligibleDeadline(each[0], 36, 100);
+            int bad = each[1];
+            Due.is("join(" + bad + ", 1)", x.join(bad, 1), EligibleDeadline.BAD_CLIENT);
+            Due.is("leave(" + bad + ")", x.leave(bad), EligibleDeadline.BAD_CLIENT);
+            Due.is("stay(" + bad + ")", x.stay(bad), EligibleDeadline.BAD_CLIENT);
+            Due.is("reweigh(" + bad + ", 1)", x.reweigh(bad, 1), EligibleDeadline.BAD_CLIENT);
+            Due.same("the bad client", Snapshot.ofClient(x, bad), Snapshot.dueOfNobody(bad));
+            Due.is("join of the last name", x.join(bad - 1, 1), EligibleDeadline.OK);
+            Due.is("next", x.next(), bad - 1);
+            Due.is("eligible", x.eligible(), 1);
+        }
+    }
+
+    private static void clampedWeightLimitEverywhere() {
+        int[][] clamped = {{-7, 1}, {0, 1}, {37, 36}, {1000, 36}};
+        for (int[] each : clamped) {
+            EligibleDeadline x = new EligibleDeadline(4, each[0], 100);
+            int limit = each[1];
+            Due.is("join above the limit", x.join(0, limit + 1), EligibleDeadline.BAD_WEIGHT);
+            Due.is("join at the limit", x.join(0, limit), EligibleDeadline.OK);
+            Due.is("join beside it", x.join(1, 1), EligibleDeadline.FULL);
+            Due.is("reweigh above the limit", x.reweigh(0, limit + 1), EligibleDeadline.BAD_WEIGHT);
+            Due.is("reweigh at the limit", x.reweigh(0, limit), EligibleDeadline.OK);
+            Due.is("totalWeight", x.totalWeight(), limit);
+        }
+        EligibleDeadline x = new EligibleDeadline(4, 40, 100);
+        x.join(0, 30);
+        x.join(1, 5);
+        Due.is("reweigh beyond the room", x.reweigh(1, 7), EligibleDeadline.FULL);
+        Due.is("reweigh in the room", x.reweigh(1, 6), EligibleDeadline.OK);
+    }
+
+    private static void clampedHorizonEverywhere() {
+        int[][] clamped = {{-7, 1}, {0, 1}, {30001, 30000}, {100000, 30000}};
+        for (int[] each : clamped) {
+            EligibleDeadline x = new EligibleDeadline(4, 36, each[0]);
+            x.join(0, 1);
+            x.join(1, 1);
+            hasHorizon(x, each[1]);
+            Due.is("run(1) at the horizon", x.run(1), 0);
+            Due.is("next at the horizon", x.next(), each[1] % 2);
+            Due.is("join at the horizon", x.join(2, 3), EligibleDeadline.OK);
         }
     }
 

@@ -1,24 +1,42 @@
-/** The edges that promises 15 to 17 name, each sentence with a test of its own: totalWeight, clock, ranAt. */
-public final class TotalsEdgesTest {
+/** Promises 15 to 17, each sentence with a test of its own: totalWeight, clock, ranAt. */
+public final class TotalsTest {
     public static void main(String[] args) {
-        Due.sentence("15: the marked ones included", TotalsEdgesTest::totalWeightOfMarked);
-        Due.sentence("15: 0 if there are none", TotalsEdgesTest::totalWeightWithoutClients);
-        Due.sentence("15: never more than weightLimit", TotalsEdgesTest::totalWeightAtTheLimit);
+        Due.sentence("15: totalWeight answers the sum of the weights of all present clients", TotalsTest::totalWeightIsTheSum);
+        Due.sentence("15: the marked ones included", TotalsTest::totalWeightOfMarked);
+        Due.sentence("15: 0 if there are none", TotalsTest::totalWeightWithoutClients);
+        Due.sentence("15: never more than weightLimit", TotalsTest::totalWeightAtTheLimit);
         Due.sentence("15: changes nothing", () -> Unchanged.byAskingInEveryState("totalWeight()", x -> x.totalWeight()));
-        Due.sentence("16: 0 .. horizon", TotalsEdgesTest::clockWithinTheHorizon);
-        Due.sentence("16: only quanta given by run move it", TotalsEdgesTest::clockMovedByRunAlone);
-        Due.sentence("16: it never goes back", TotalsEdgesTest::clockNeverGoesBack);
+        Due.sentence("16: clock answers the number of quanta given since construction", TotalsTest::clockIsTheQuantaGiven);
+        Due.sentence("16: 0 .. horizon", TotalsTest::clockWithinTheHorizon);
+        Due.sentence("16: only quanta given by run move it", TotalsTest::clockMovedByRunAlone);
+        Due.sentence("16: it never goes back", TotalsTest::clockNeverGoesBack);
         Due.sentence("16: changes nothing", () -> Unchanged.byAskingInEveryState("clock()", x -> x.clock()));
-        Due.sentence("17: back 0 is the most recent quantum, 1 the one before", TotalsEdgesTest::ranAtInOrder);
-        Due.sentence("17: NONE if back < 0", TotalsEdgesTest::ranAtBelowZero);
-        Due.sentence("17: NONE if back > 63", TotalsEdgesTest::ranAtAbove63);
-        Due.sentence("17: NONE if back >= the clock", TotalsEdgesTest::ranAtBeforeTheFirst);
-        Due.sentence("17: the last 64 after the log has wrapped around", TotalsEdgesTest::ranAtWrapped);
-        Due.sentence("17: the last 64 at the greatest horizon", TotalsEdgesTest::ranAtTheGreatestHorizon);
-        Due.sentence("17: names stay in the log when their clients leave", TotalsEdgesTest::ranAtOfTheGone);
-        Due.sentence("17: names stay in the log when their clients join again", TotalsEdgesTest::ranAtOfTheJoinedAgain);
-        Due.sentence("17: changes nothing", TotalsEdgesTest::ranAtChangesNothing);
+        Due.sentence("17: ranAt answers who got the quantum before the last back quanta", TotalsTest::ranAtIsWhoGotIt);
+        Due.sentence("17: back 0 is the most recent quantum, 1 the one before", TotalsTest::ranAtInOrder);
+        Due.sentence("17: NONE if back < 0", TotalsTest::ranAtBelowZero);
+        Due.sentence("17: NONE if back > 63", TotalsTest::ranAtAbove63);
+        Due.sentence("17: NONE if back >= the clock", TotalsTest::ranAtBeforeTheFirst);
+        Due.sentence("17: the last 64 after the log has wrapped around", TotalsTest::ranAtWrapped);
+        Due.sentence("17: the last 64 at the greatest horizon", TotalsTest::ranAtTheGreatestHorizon);
+        Due.sentence("17: names stay in the log when their clients leave", TotalsTest::ranAtOfTheGone);
+        Due.sentence("17: names stay in the log when their clients join again", TotalsTest::ranAtOfTheJoinedAgain);
+        Due.sentence("17: changes nothing", TotalsTest::ranAtChangesNothing);
         Due.end();
+    }
+
+    private static void totalWeightIsTheSum() {
+        Mixed.inEachState((when, maker) -> {
+            EligibleDeadline x = maker.get();
+            int sum = 0;
+            for (int client = 0; client < States.CLIENTS; client++) {
+                sum += x.weight(client);
+            }
+            Due.is("totalWeight()" + when, x.totalWeight(), sum);
+        });
+        EligibleDeadline x = States.joined(1, 2, 4, 8, 16);
+        Due.is("totalWeight of five", x.totalWeight(), 31);
+        x.leave(2);
+        Due.is("totalWeight of four", x.totalWeight(), 27);
     }
 
     private static void totalWeightOfMarked() {
@@ -44,6 +62,18 @@ public final class TotalsEdgesTest {
             x.reweigh(0, limit);
             Due.is("totalWeight after reweigh", x.totalWeight(), Math.min(limit, 32));
         }
+    }
+
+    private static void clockIsTheQuantaGiven() {
+        EligibleDeadline x = States.joined(2, 3, 5, 7);
+        int given = 0;
+        for (int count = 1; count <= 40; count++) {
+            given += x.run(count);
+            Due.is("clock after run(" + count + ")", x.clock(), given);
+        }
+        x.leave(0);
+        x.leave(1);
+        Due.is("clock after leave", x.clock(), 820);
     }
 
     private static void clockWithinTheHorizon() {
@@ -84,6 +114,18 @@ public final class TotalsEdgesTest {
         Due.is("clock, run on", x.clock(), 68);
         x.leave(0);
         Due.is("clock, left", x.clock(), 68);
+    }
+
+    private static void ranAtIsWhoGotIt() {
+        EligibleDeadline x = States.joined(2, 3, 5, 7);
+        int[] got = new int[150];
+        for (int quanta = 0; quanta < 150; quanta++) {
+            got[quanta] = x.next();
+            x.run(1);
+            for (int back = 0; back < 64 && back <= quanta; back++) {
+                Due.is("ranAt(" + back + ") of " + (quanta + 1), x.ranAt(back), got[quanta - back]);
+            }
+        }
     }
 
     private static void ranAtInOrder() {

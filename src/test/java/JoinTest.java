@@ -1,26 +1,26 @@
 import java.util.function.Supplier;
 
-/** The edges that promise 2 names, each sentence with a test of its own: join. */
-public final class JoinEdgesTest {
+/** Promise 2, each sentence with a test of its own: join. */
+public final class JoinTest {
     private static final long UNIT = States.UNIT;
 
     public static void main(String[] args) {
-        Due.sentence("2.1: bad client: BAD_CLIENT", JoinEdgesTest::badClient);
-        Due.sentence("2.2: the client is present, not marked: PRESENT", JoinEdgesTest::present);
-        Due.sentence("2.2: the client is present, marked: PRESENT", JoinEdgesTest::presentAndMarked);
-        Due.sentence("2.3: weight < 1: BAD_WEIGHT", JoinEdgesTest::weightTooSmall);
-        Due.sentence("2.3: weight > weightLimit: BAD_WEIGHT", JoinEdgesTest::weightTooLarge);
-        Due.sentence("2.4: W + weight > weightLimit: FULL", JoinEdgesTest::full);
-        Due.sentence("2.4: not FULL when W + weight is weightLimit", JoinEdgesTest::upToTheLimit);
-        Due.sentence("2.5: present with this weight, advance 0, served 0 and no mark", JoinEdgesTest::asNew);
-        Due.sentence("2.5: W grows by weight", JoinEdgesTest::weightGrows);
-        Due.sentence("2: nothing of the others changes", JoinEdgesTest::othersStay);
-        Due.sentence("2: the clock and the log do not change", JoinEdgesTest::clockAndLogStay);
-        Due.sentence("2: joining works when the clock equals horizon too", JoinEdgesTest::atTheHorizon);
-        Due.sentence("2: one that was present earlier joins like any other", JoinEdgesTest::joiningAgain);
-        Due.sentence("2: no served count comes back", JoinEdgesTest::noServedCountComesBack);
-        Due.sentence("2: no mark comes back", JoinEdgesTest::noMarkComesBack);
-        Due.sentence("2: no weight and no advance come back", JoinEdgesTest::noWeightOrAdvanceComesBack);
+        Due.sentence("2.1: bad client: BAD_CLIENT", JoinTest::badClient);
+        Due.sentence("2.2: the client is present, not marked: PRESENT", JoinTest::present);
+        Due.sentence("2.2: the client is present, marked: PRESENT", JoinTest::presentAndMarked);
+        Due.sentence("2.3: weight < 1: BAD_WEIGHT", JoinTest::weightTooSmall);
+        Due.sentence("2.3: weight > weightLimit: BAD_WEIGHT", JoinTest::weightTooLarge);
+        Due.sentence("2.4: W + weight > weightLimit: FULL", JoinTest::full);
+        Due.sentence("2.4: not FULL when W + weight is weightLimit", JoinTest::upToTheLimit);
+        Due.sentence("2.5: present with this weight, advance 0, served 0 and no mark", JoinTest::asNew);
+        Due.sentence("2.5: W grows by weight", JoinTest::weightGrows);
+        Due.sentence("2: nothing of the others changes", JoinTest::othersStay);
+        Due.sentence("2: the clock and the log do not change", JoinTest::clockAndLogStay);
+        Due.sentence("2: joining works when the clock equals horizon too", JoinTest::atTheHorizon);
+        Due.sentence("2: one that was present earlier joins like any other", JoinTest::joiningAgain);
+        Due.sentence("2: no served count comes back", JoinTest::noServedCountComesBack);
+        Due.sentence("2: no mark comes back", JoinTest::noMarkComesBack);
+        Due.sentence("2: no weight and no advance come back", JoinTest::noWeightOrAdvanceComesBack);
         Due.end();
     }
 

@@ -1,44 +1,45 @@
 import java.util.Map;
 import java.util.function.Supplier;
 
-/** The edges that promise 6 names, each sentence with a test of its own: run and one quantum. */
-public final class RunEdgesTest {
+/** Promise 6, each sentence with a test of its own: run and one quantum. */
+public final class RunTest {
     private static final long UNIT = States.UNIT;
 
     public static void main(String[] args) {
-        Due.sentence("6: count < 1: BAD_COUNT, in every state", RunEdgesTest::countTooSmall);
-        Due.sentence("6: count > 64: BAD_COUNT, in every state", RunEdgesTest::countTooLarge);
-        Due.sentence("6: counts 1 .. 64 are taken", RunEdgesTest::countsTaken);
-        Due.sentence("6: before the first one, no client present: ends there", RunEdgesTest::noClientAtFirst);
-        Due.sentence("6: before a later one, no client present: ends there", RunEdgesTest::noClientLater);
-        Due.sentence("6: before the first one, the clock equals horizon: ends there", RunEdgesTest::horizonAtFirst);
-        Due.sentence("6: before a later one, the clock equals horizon: ends there", RunEdgesTest::horizonLater);
-        Due.sentence("6: the answer is the number of quanta given in this call", RunEdgesTest::answersTheQuantaGiven);
-        Due.sentence("6: if the answer is 0, nothing has changed", RunEdgesTest::nothingGivenNothingChanged);
-        Due.sentence("6: time without clients does not move the clock", RunEdgesTest::timeWithoutClients);
-        Due.sentence("6: many quanta in one call are the same as one by one", RunEdgesTest::oneByOne);
-        Due.sentence("6, step 1: c = best(0), by the state before the quantum", RunEdgesTest::bestBeforeTheQuantum);
-        Due.sentence("6, step 1: there always is one", RunEdgesTest::thereAlwaysIsOne);
-        Due.sentence("6, step 2: advance(c) grows by step(c)", RunEdgesTest::advanceGrows);
-        Due.sentence("6, step 2: served(c) grows by 1", RunEdgesTest::servedGrows);
-        Due.sentence("6, step 3: advance(i) falls for every present client", RunEdgesTest::advancesFall);
-        Due.sentence("6, step 3: c among them", RunEdgesTest::advanceOfTheOnlyOne);
-        Due.sentence("6, step 4: the clock grows by 1", RunEdgesTest::clockGrows);
-        Due.sentence("6, step 4: c is put in the log as the most recent entry", RunEdgesTest::logged);
-        Due.sentence("6, step 5: a marked client that now has advance 0 becomes absent", RunEdgesTest::leaverGoes);
-        Due.sentence("6, step 5: a marked client with another advance stays", RunEdgesTest::leaverBeyondTheMeanStays);
-        Due.sentence("6, step 5: all such clients together", RunEdgesTest::leaversGoTogether);
-        Due.sentence("6, step 5: W falls by their weights", RunEdgesTest::weightFalls);
-        Due.sentence("6, step 5: the advances of the others do not change", RunEdgesTest::othersKeepTheirAdvances);
-        Due.sentence("6: in step 3, W is still the sum before step 5", RunEdgesTest::sumBeforeDepartures);
-        Due.sentence("6: the next quantum has the sum after step 5", RunEdgesTest::sumAfterDepartures);
-        Due.sentence("6: c itself can be among those that become absent", RunEdgesTest::chosenLeaves);
-        Due.sentence("6: its name is in the log all the same", RunEdgesTest::chosenThatLeftIsLogged);
-        Due.sentence("6: unmarked clients with advance 0 stay present", RunEdgesTest::unmarkedStay);
-        Due.sentence("6: no quantum changes a weight", RunEdgesTest::weightsStay);
-        Due.sentence("6: no quantum sets a mark", RunEdgesTest::noMarkIsSet);
-        Due.sentence("6: the served counts of the others do not grow", RunEdgesTest::othersAreNotServed);
-        Due.sentence("6: the last one becomes absent: the call ends before the next quantum", RunEdgesTest::lastLeaves);
+        Due.sentence("6: count < 1: BAD_COUNT, in every state", RunTest::countTooSmall);
+        Due.sentence("6: count > 64: BAD_COUNT, in every state", RunTest::countTooLarge);
+        Due.sentence("6: counts 1 .. 64 are taken", RunTest::countsTaken);
+        Due.sentence("6: before the first one, no client present: ends there", RunTest::noClientAtFirst);
+        Due.sentence("6: before a later one, no client present: ends there", RunTest::noClientLater);
+        Due.sentence("6: before the first one, the clock equals horizon: ends there", RunTest::horizonAtFirst);
+        Due.sentence("6: before a later one, the clock equals horizon: ends there", RunTest::horizonLater);
+        Due.sentence("6: the answer is the number of quanta given in this call", RunTest::answersTheQuantaGiven);
+        Due.sentence("6: if the answer is 0, nothing has changed", RunTest::nothingGivenNothingChanged);
+        Due.sentence("6: time without clients does not move the clock", RunTest::timeWithoutClients);
+        Due.sentence("6: many quanta in one call are the same as one by one", RunTest::oneByOne);
+        Due.sentence("6: a quantum is done only with at least one client present", RunTest::onlyWithAClient);
+        Due.sentence("6, step 1: c = best(0), by the state before the quantum", RunTest::bestBeforeTheQuantum);
+        Due.sentence("6, step 1: there always is one", RunTest::thereAlwaysIsOne);
+        Due.sentence("6, step 2: advance(c) grows by step(c)", RunTest::advanceGrows);
+        Due.sentence("6, step 2: served(c) grows by 1", RunTest::servedGrows);
+        Due.sentence("6, step 3: advance(i) falls for every present client", RunTest::advancesFall);
+        Due.sentence("6, step 3: c among them", RunTest::advanceOfTheOnlyOne);
+        Due.sentence("6, step 4: the clock grows by 1", RunTest::clockGrows);
+        Due.sentence("6, step 4: c is put in the log as the most recent entry", RunTest::logged);
+        Due.sentence("6, step 5: a marked client that now has advance 0 becomes absent", RunTest::leaverGoes);
+        Due.sentence("6, step 5: a marked client with another advance stays", RunTest::leaverBeyondTheMeanStays);
+        Due.sentence("6, step 5: all such clients together", RunTest::leaversGoTogether);
+        Due.sentence("6, step 5: W falls by their weights", RunTest::weightFalls);
+        Due.sentence("6, step 5: the advances of the others do not change", RunTest::othersKeepTheirAdvances);
+        Due.sentence("6: in step 3, W is still the sum before step 5", RunTest::sumBeforeDepartures);
+        Due.sentence("6: the next quantum has the sum after step 5", RunTest::sumAfterDepartures);
+        Due.sentence("6: c itself can be among those that become absent", RunTest::chosenLeaves);
+        Due.sentence("6: its name is in the log all the same", RunTest::chosenThatLeftIsLogged);
+        Due.sentence("6: unmarked clients with advance 0 stay present", RunTest::unmarkedStay);
+        Due.sentence("6: no quantum changes a weight", RunTest::weightsStay);
+        Due.sentence("6: no quantum sets a mark", RunTest::noMarkIsSet);
+        Due.sentence("6: the served counts of the others do not grow", RunTest::othersAreNotServed);
+        Due.sentence("6: the last one becomes absent: the call ends before the next quantum", RunTest::lastLeaves);
         Due.end();
     }
 
@@ -148,6 +149,25 @@ public final class RunEdgesTest {
             single.run(1);
         }
         Due.same("64 at once and one by one", Snapshot.of(atOnce), Snapshot.of(single));
+    }
+
+    private static void onlyWithAClient() {
+        Mixed.inEachState((when, maker) -> {
+            EligibleDeadline x = maker.get();
+            boolean someone = x.totalWeight() > 0;
+            int clock = x.clock();
+            int given = x.run(1);
+            Due.is("a quantum without a client" + when, given > 0 && !someone, false);
+            Due.is("clock" + when, x.clock(), clock + given);
+            Due.is("NONE is in the log" + when, given > 0 && x.ranAt(0) < 0, false);
+        });
+        Due.is("ranAt(0) of time without clients", ranWithoutClients().ranAt(0), EligibleDeadline.NONE);
+    }
+
+    private static EligibleDeadline ranWithoutClients() {
+        EligibleDeadline x = States.empty();
+        x.run(64);
+        return x;
     }
 
     private static void bestBeforeTheQuantum() {

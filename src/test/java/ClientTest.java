@@ -1,5 +1,5 @@
-/** The edges that promises 10 to 14 name, each sentence with a test of its own: what is asked of one client. */
-public final class ClientEdgesTest {
+/** Promises 10 to 14, each sentence with a test of its own: what is asked of one client. */
+public final class ClientTest {
     private static final long UNIT = States.UNIT;
     private static final long NO_VALUE = 1000000000000000000L;
 
@@ -14,32 +14,36 @@ public final class ClientEdgesTest {
     private static final Question LEAVING = (x, client) -> x.leaving(client) ? 1 : 0;
 
     public static void main(String[] args) {
-        Due.sentence("10: marked or not", ClientEdgesTest::lagMarked);
-        Due.sentence("10: positive for a client behind the mean", ClientEdgesTest::lagBehind);
-        Due.sentence("10: negative for one beyond it", ClientEdgesTest::lagBeyond);
-        Due.sentence("10: 0 at advance 0", ClientEdgesTest::lagAtTheMean);
+        Due.sentence("10: lag answers -(weight * advance) for a present client", ClientTest::lagOfPresent);
+        Due.sentence("10: marked or not", ClientTest::lagMarked);
+        Due.sentence("10: positive for a client behind the mean", ClientTest::lagBehind);
+        Due.sentence("10: negative for one beyond it", ClientTest::lagBeyond);
+        Due.sentence("10: 0 at advance 0", ClientTest::lagAtTheMean);
         Due.sentence("10: NO_VALUE if the client is bad", () -> ofEveryBad("lag", LAG, NO_VALUE));
         Due.sentence("10: NO_VALUE if the client is absent", () -> ofEveryAbsent("lag", LAG, NO_VALUE));
         Due.sentence("10: changes nothing", () -> changesNothing("lag", LAG));
-        Due.sentence("11: marked or not", ClientEdgesTest::deadlineMarked);
-        Due.sentence("11: eligible or not", ClientEdgesTest::deadlineEligibleOrNot);
+        Due.sentence("11: deadline answers advance + UNIT / weight for a present client", ClientTest::deadlineOfPresent);
+        Due.sentence("11: marked or not", ClientTest::deadlineMarked);
+        Due.sentence("11: eligible or not", ClientTest::deadlineEligibleOrNot);
         Due.sentence("11: NO_VALUE if the client is bad", () -> ofEveryBad("deadline", DEADLINE, NO_VALUE));
         Due.sentence("11: NO_VALUE if the client is absent", () -> ofEveryAbsent("deadline", DEADLINE, NO_VALUE));
         Due.sentence("11: changes nothing", () -> changesNothing("deadline", DEADLINE));
-        Due.sentence("12: the weight of a present client, the least to the greatest", ClientEdgesTest::weightOfPresent);
+        Due.sentence("12: the weight of a present client, the least to the greatest", ClientTest::weightOfPresent);
         Due.sentence("12: 0 if the client is bad", () -> ofEveryBad("weight", WEIGHT, 0));
         Due.sentence("12: 0 if the client is absent", () -> ofEveryAbsent("weight", WEIGHT, 0));
         Due.sentence("12: changes nothing", () -> changesNothing("weight", WEIGHT));
-        Due.sentence("13: since it last joined", ClientEdgesTest::servedSinceItLastJoined);
-        Due.sentence("13: 0 if it has been given none since", ClientEdgesTest::servedNone);
-        Due.sentence("13: up to the whole horizon", ClientEdgesTest::servedAll);
+        Due.sentence("13: served answers the quanta given to a present client", ClientTest::servedOfPresent);
+        Due.sentence("13: since it last joined", ClientTest::servedSinceItLastJoined);
+        Due.sentence("13: 0 if it has been given none since", ClientTest::servedNone);
+        Due.sentence("13: up to the whole horizon", ClientTest::servedAll);
         Due.sentence("13: NONE if the client is bad", () -> ofEveryBad("served", SERVED, EligibleDeadline.NONE));
         Due.sentence("13: NONE if the client is absent", () -> ofEveryAbsent("served", SERVED, EligibleDeadline.NONE));
         Due.sentence("13: changes nothing", () -> changesNothing("served", SERVED));
-        Due.sentence("14: true if the client is present and marked", ClientEdgesTest::leavingOfMarked);
+        Due.sentence("14: leaving answers true exactly if present and marked", ClientTest::leavingExactly);
+        Due.sentence("14: true if the client is present and marked", ClientTest::leavingOfMarked);
         Due.sentence("14: false for a bad client", () -> ofEveryBad("leaving", LEAVING, 0));
         Due.sentence("14: false for an absent one", () -> ofEveryAbsent("leaving", LEAVING, 0));
-        Due.sentence("14: false for a present one without the mark", ClientEdgesTest::leavingOfUnmarked);
+        Due.sentence("14: false for a present one without the mark", ClientTest::leavingOfUnmarked);
         Due.sentence("14: changes nothing", () -> changesNothing("leaving", LEAVING));
         Due.end();
     }
@@ -73,6 +77,57 @@ public final class ClientEdgesTest {
             }
             question.ask(x, Integer.MIN_VALUE);
             question.ask(x, Integer.MAX_VALUE);
+        });
+    }
+
+    private interface PresentClient {
+        void check(EligibleDeadline x, int client, int weight, long advance);
+    }
+
+    // All join at once, so an advance is the quanta that the client was given, times its step, minus
+    // all quanta, times UNIT / 17.
+    private static void afterEachOf100Quanta(PresentClient present) {
+        int[] weights = {2, 3, 5, 7};
+        EligibleDeadline x = States.joined(weights);
+        int[] given = new int[4];
+        for (int quanta = 1; quanta <= 100; quanta++) {
+            x.run(1);
+            given[x.ranAt(0)]++;
+            for (int client = 0; client < 4; client++) {
+                long advance = given[client] * (UNIT / weights[client]) - quanta * (UNIT / 17);
+                present.check(x, client, weights[client], advance);
+            }
+        }
+    }
+
+    private static void lagOfPresent() {
+        afterEachOf100Quanta((x, client, weight, advance) ->
+            Due.is("lag(" + client + ") after " + x.clock(), x.lag(client), -(weight * advance)));
+    }
+
+    private static void deadlineOfPresent() {
+        afterEachOf100Quanta((x, client, weight, advance) ->
+            Due.is("deadline(" + client + ") after " + x.clock(), x.deadline(client), advance + UNIT / weight));
+    }
+
+    private static void servedOfPresent() {
+        int[] given = new int[4];
+        EligibleDeadline x = States.joined(2, 3, 5, 7);
+        for (int quanta = 1; quanta <= 100; quanta++) {
+            given[x.next()]++;
+            x.run(1);
+            for (int client = 0; client < 4; client++) {
+                Due.is("served(" + client + ") after " + quanta, x.served(client), given[client]);
+            }
+        }
+    }
+
+    private static void leavingExactly() {
+        Mixed.inEachState((when, maker) -> {
+            for (int client = -1; client <= States.CLIENTS; client++) {
+                boolean marked = maker.get().stay(client) == EligibleDeadline.OK;
+                Due.is("leaving(" + client + ")" + when, maker.get().leaving(client), marked);
+            }
         });
     }
 
