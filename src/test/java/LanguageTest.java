@@ -251,7 +251,8 @@ public final class LanguageTest {
             }
         }.scan(program, null);
         for (MethodTree method : methods.values()) {
-            Due.is(method.getName() + " is synchronized", method.getModifiers().getFlags().contains(Modifier.SYNCHRONIZED), false);
+            Set<Modifier> flags = method.getModifiers().getFlags();
+            Due.is(method.getName() + " is synchronized", flags.contains(Modifier.SYNCHRONIZED), false);
             Due.is(method.getName() + " throws", method.getThrows().size(), 0);
         }
     }

@@ -23,6 +23,7 @@ public final class OnePartTest {
         Due.sentence("5.4: an advance of one part is not 0: LAGGING", OnePartTest::reweighIsLagging);
         Due.sentence("6, step 1: one that is a part beyond the mean is not chosen", OnePartTest::notChosen);
         Due.sentence("6, step 5: a marked client that now is one part off stays", OnePartTest::leaverStays);
+        Due.sentence("7: next answers best(0), to a part", OnePartTest::nextToAPart);
         Due.end();
     }
 
@@ -105,6 +106,11 @@ public final class OnePartTest {
         EligibleDeadline behind = onePart(0, 3, BEHIND);
         behind.run(1);
         Due.is("the quantum after 0 was a part behind", behind.ranAt(0), 0);
+    }
+
+    private static void nextToAPart() {
+        Due.is("next is 0, a part beyond", onePart(0, 3, BEYOND).next() == 0, false);
+        Due.is("next, 0 a part behind", onePart(0, 3, BEHIND).next(), 0);
     }
 
     private static void leaverStays() {

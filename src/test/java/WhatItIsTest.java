@@ -17,7 +17,7 @@ public final class WhatItIsTest {
         Due.sentence("What it is: may change weight only at lag zero", WhatItIsTest::reweighOnlyAtLagZero);
         Due.sentence("What it is: leave at lag zero", WhatItIsTest::leaveOnlyAtLagZero);
         Due.sentence("What it is: a request to leave at another moment is kept", WhatItIsTest::requestIsKept);
-        Due.sentence("What it is: takes effect at the first quantum that brings the lag to zero", WhatItIsTest::requestTakesEffect);
+        Due.sentence("What it is: takes effect at the first quantum with lag zero", WhatItIsTest::requestTakesEffect);
         Due.sentence("What it is: unless it is withdrawn before", WhatItIsTest::requestIsWithdrawn);
         Due.sentence("UNIT: the parts that make one unit of virtual time", WhatItIsTest::unitOfVirtualTime);
         Due.sentence("UNIT: or one quantum of lag", WhatItIsTest::quantumOfLag);

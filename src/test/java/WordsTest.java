@@ -274,7 +274,8 @@ public final class WordsTest {
 
     private static void clockCountsQuanta() {
         EligibleDeadline x = new EligibleDeadline(8, 36, 700);
-        int given = 0;
+        int given = x.run(9);
+        Due.is("clock after time without clients", x.clock(), given);
         for (int calls = 0; calls < 100; calls++) {
             x.join(calls % 8, 1 + calls % 4);
             x.leave((calls + 3) % 8);
